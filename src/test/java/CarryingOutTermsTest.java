@@ -88,6 +88,16 @@ public final class CarryingOutTermsTest {
         Check.drawn(days, "bar x a y count where a > 2024-01-31", "2");
         Check.drawn(days, "bar x a y count where a < 2024-01-31", "2");
         Check.drawn(days, "bar x a y count where a > 2023-11-30", "4");
+        // Each of the eight digits makes another day, and a later one.
+        String[] later = {
+            "2012-01-01", "1112-01-01", "1022-01-01", "1013-01-01", "1012-11-01", "1012-02-01", "1012-01-11", "1012-01-02"};
+        for (String day : later) {
+            String data = "a,v\n" + day + ",1\n1012-01-01,2\n";
+            Check.valuesAre(data, "bar x a y sum v", "2000 1000");
+            Check.valuesAre(data, "bar x a y sum v where a > 1012-01-01", "1000");
+            Check.valuesAre(data, "bar x a y sum v where a < " + day, "2000");
+            Check.valuesAre(data, "bar x a y sum v where a = " + day, "1000");
+        }
     }
 
     /** "TEXTS as they are written)": the same number in a column of texts is not equal. */

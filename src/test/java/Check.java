@@ -179,7 +179,10 @@ final class Check {
         return pixel == 0 ? "." : Integer.toString(pixel);
     }
 
-    /** What was drawn, a line for each row and a point for each 0. */
+    /**
+     * What was drawn, a line for each row and a point for each 0. These are more calls than the 512 up to which
+     * the document promises anything; the program answers on as before.
+     */
     static String picture(ChartPress press, int w, int h) {
         StringBuilder rows = new StringBuilder();
         for (int y = 0; y < h; y++) {

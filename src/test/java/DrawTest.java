@@ -142,18 +142,33 @@ public final class DrawTest {
         Check.due("value(0)", press.value(0), 0);
     }
 
-    /** The same call twice draws the same; another chart takes its place as a whole. */
+    /** Nothing of a chart before, drawn or refused, has a part in the next one: each behind each other, and behind itself. */
     private static void drawnAgain() {
-        ChartPress press = Check.press(TABLE, "bar x n y sum v");
-        Check.due("draw", Check.draw(press), "3");
-        String picture = Check.picture(press, 48, 32);
-        Check.due("draw again", Check.draw(press), "3");
-        Check.due("picture", Check.picture(press, 48, 32), picture);
-        Check.refill(press, TABLE, "line x t y count");
-        Check.due("draw another", Check.draw(press), "2");
-        Check.due("values of the other", Check.values(press), "2000 1000");
-        ChartPress alone = Check.press(TABLE, "line x t y count");
-        Check.draw(alone);
-        Check.due("the other's picture", Check.picture(press, 48, 32), Check.picture(alone, 48, 32));
+        String parts = "a,v,k\n1,-9,p\n1,2,q\n1,3,r\n1,4,s\n2,5,t\n2,-6,u\n3,7,\n4,,p\n";
+        String[][] charts = {
+            {TABLE, "bar x n y sum v"}, {TABLE, "line x t y count"}, {TABLE, "point x d y mean v"}, {TABLE, "bar x n y sum v order down"},
+            {TABLE, "bar x n y sum v where n > 1"}, {TABLE, "bar x n y sum v where n > 1 where n < 3 ticks 9"},
+            {TABLE, "bar x n y count where t = a stack t"}, {parts, "bar x a y sum v stack k"}, {parts, "bar x a y sum v"},
+            {parts, "line x a y max v where v < 0"}, {parts, "bar x a y min v order up"}, {parts, "bar x a y count stack k ticks 3"},
+            {"a\n1\n2\n3\n4\n5\n6\n7\n8\n", "bar x a y sum a"}, {"a\n0.001\n", "point x a y sum a"}, {"a\n\"\"\"\"\n", COUNT},
+            {"a,b\n1,2\"", COUNT}, {"a,b,c\n1,2,\"", COUNT}, {"a,b\n1,2,3\n", COUNT}, {"a,b,c,d,e,f\n,,,,,\n", COUNT},
+            {"a\nabcdefghijklm\n", COUNT}, {"a\n\n", COUNT}, {"a\n1\n2\n3\n4\n5\n6\n7\n8\n9\n", COUNT}, {TABLE, "bar x n"},
+            {TABLE, "bar x n y count where n > 1 where n > 2 order up stack t ticks 3 ticks"}, {"a\n-999999.999\n-999999.998\n", "line x a y sum a"}};
+        for (String[] chart : charts) {
+            ChartPress alone = Check.press(chart[0], chart[1]);
+            String answer = Check.draw(alone);
+            for (String[] before : charts) {
+                ChartPress press = Check.press(before[0], before[1]);
+                Check.draw(press);
+                Check.due("canvas", press.canvas(48, 32), true);
+                Check.refill(press, chart[0], chart[1]);
+                String what = "<" + chart[0] + "> by <" + chart[1] + "> behind <" + before[0] + "> by <" + before[1] + ">";
+                Check.due("draw of " + what, Check.draw(press), answer);
+                Check.due("figures of " + what, Check.figures(press), Check.figures(alone));
+                Check.due("values of " + what, Check.values(press), Check.values(alone));
+                Check.due("picture of " + what, Check.picture(press, 48, 32), Check.picture(alone, 48, 32));
+                Check.due("column(0) of " + what, press.column(0), alone.column(0));
+            }
+        }
     }
 }

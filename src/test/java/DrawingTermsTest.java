@@ -282,9 +282,12 @@ public final class DrawingTermsTest {
     /** "point: the pixel at middle and row, and the four beside it that are in the area" */
     private static void pointsInTheArea() {
         // Bands of 2 columns begin at their middle, LEFT + 2 i: the first point is at LEFT, and none goes into the axes.
-        ChartPress narrow = Check.drawnPress(23, 18, "a,v\n1,1\n2,2\n3,0\n4,2\n5,0\n6,2\n7,0\n8,1\n", "point x a y sum v ticks 3");
+        ChartPress narrow = Check.drawnPress(23, 18, "a,v\n1,1\n2,2\n3,0\n4,2\n5,0\n6,2\n7,0\n8,2\n", "point x a y sum v ticks 3");
         Check.due("row 0", Check.row(narrow, 0, 4, 22), "...................");
-        Check.due("row 1", Check.row(narrow, 1, 4, 22), "11.333.333.333.....");
+        Check.due("row 1", Check.row(narrow, 1, 4, 22), "11.333.333.333.333.");
+        Check.due("row 4", Check.row(narrow, 4, 4, 22), ".13................");
+        Check.due("row 5", Check.row(narrow, 5, 4, 22), "1133...............");
+        Check.due("row 6", Check.row(narrow, 6, 4, 22), ".13................");
         Check.due("column LEFT - 1", Check.downward(narrow, 5, 1, 10), "1111111111");
         Check.due("row H - 8", Check.row(narrow, 10, 5, 22), "11111111111111111.");
         Check.due("column W - 1", Check.downward(narrow, 22, 0, 17), ".".repeat(18));

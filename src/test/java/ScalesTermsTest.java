@@ -49,6 +49,9 @@ public final class ScalesTermsTest {
             Check.figuresAre("a,v\n1,30\n2,40\n", mark + " x a y sum v", "2 10 30000 40000 5000 3 1");
             Check.figuresAre("a,v\n1,-30\n2,-40\n", mark + " x a y sum v", "2 14 -40000 -30000 5000 3 1");
             Check.figuresAre("a,v\n1,8\n2,9\n3,7\n4,8\n", mark + " x a y sum v ticks 3", "4 6 7000 9000 1000 3 1");
+            // Nor has a group that was left out, wherever it stood.
+            Check.figuresAre("a,v\np,\nq,30\nr,40\n", mark + " x a y mean v", "2 10 30000 40000 5000 3 1");
+            Check.figuresAre("a,v\np,-30\nq,\nr,-40\ns,\n", mark + " x a y max v", "2 14 -40000 -30000 5000 3 1");
         }
     }
 
