@@ -2,7 +2,8 @@ import java.util.Random;
 
 /** Any calls in any order: nothing but draw's own exceptions is thrown, and the same calls give the same answers. */
 public final class AnyCallsTest {
-    private static final int RUNS = 200;
+    private static final int RUNS = 400;
+    /** "An object is used for at most 512 calls after it has been made" */
     private static final int CALLS = 512;
     private static final String[] DATA = {
         "a,b,c\n", "1,2,x\n", "2,-3,y\n", "3,,x\n", "a\n", "\"q\"\"\"", ",", "\n", "\r\n", "\"", "999999.999", "2024-02-29,1,z\n"};
@@ -11,65 +12,93 @@ public final class AnyCallsTest {
         "where a > ", "1 ", "where c = x ", "where "};
     private static final int[] NUMBERS = {-1, 0, 1, 2, 5, 7, 8, 17, 18, 20, 31, 48, 64, 96, 97, Integer.MAX_VALUE, Integer.MIN_VALUE};
 
+    private final ChartPress press = new ChartPress();
+    private final StringBuilder answers = new StringBuilder();
+    private final Random random;
+    private int calls = 0;
+
+    private AnyCallsTest(int run) {
+        random = new Random(run);
+    }
+
     public static void main(String[] args) {
         for (int run = 0; run < RUNS; run++) {
-            Check.due("run " + run + ", made twice", answers(run), answers(run));
+            Check.due("run " + run + ", made twice", new AnyCallsTest(run).answers(), new AnyCallsTest(run).answers());
         }
         Check.end();
     }
 
-    private static String answers(int run) {
-        Random random = new Random(run);
-        ChartPress press = new ChartPress();
-        StringBuilder all = new StringBuilder();
-        for (int call = 0; call < CALLS; call++) {
-            all.append(anyCall(press, random)).append(' ');
-        }
-        return all.toString();
-    }
-
-    private static String anyCall(ChartPress press, Random random) {
-        int number = NUMBERS[random.nextInt(NUMBERS.length)];
-        int other = NUMBERS[random.nextInt(NUMBERS.length)];
-        switch (random.nextInt(12)) {
-            case 0: case 1:
-                return feed(press, true, DATA[random.nextInt(DATA.length)]);
-            case 2: case 3:
-                return feed(press, false, TEXT[random.nextInt(TEXT.length)]);
-            case 4:
-                press.wipe(random.nextBoolean());
-                return "-";
-            case 5:
-                return String.valueOf(press.canvas(number, other));
-            case 6:
-                return String.valueOf(press.pixel(number, other));
-            case 7:
-                return String.valueOf(press.figure(number));
-            case 8:
-                return String.valueOf(press.column(number));
-            case 9:
-                return String.valueOf(press.value(number));
-            case 10:
-                return String.valueOf(press.data(random.nextLong())) + press.text(random.nextLong());
-            default:
-                return drawnOrThrown(press);
-        }
-    }
-
-    private static String feed(ChartPress press, boolean data, String characters) {
-        StringBuilder answers = new StringBuilder();
-        for (int i = 0; i < characters.length(); i++) {
-            answers.append(data ? press.data(characters.charAt(i)) : press.text(characters.charAt(i)));
+    /** No turn makes more than two calls. */
+    private String answers() {
+        while (calls + 2 <= CALLS) {
+            turn();
         }
         return answers.toString();
     }
 
-    private static String drawnOrThrown(ChartPress press) {
-        String answer = Check.draw(press);
-        boolean asSaid = answer.length() == 1 || answer.equals("IllegalArgumentException")
-            || answer.equals("UnsupportedOperationException") || answer.equals("IllegalStateException")
-            || answer.equals("ArithmeticException") || answer.equals("IndexOutOfBoundsException");
+    private void turn() {
+        int number = any(NUMBERS);
+        switch (random.nextInt(12)) {
+            case 0: case 1:
+                feed(true, DATA[random.nextInt(DATA.length)]);
+                break;
+            case 2: case 3:
+                feed(false, TEXT[random.nextInt(TEXT.length)]);
+                break;
+            case 4:
+                press.wipe(random.nextBoolean());
+                note("-");
+                break;
+            case 5:
+                note(press.canvas(number, any(NUMBERS)));
+                break;
+            case 6:
+                note(press.pixel(number, any(NUMBERS)));
+                break;
+            case 7:
+                note(press.figure(number));
+                break;
+            case 8:
+                note(press.column(number));
+                break;
+            case 9:
+                note(press.value(number));
+                break;
+            case 10:
+                note(press.data(random.nextLong()));
+                note(press.text(random.nextLong()));
+                break;
+            default:
+                draw();
+        }
+    }
+
+    private int any(int[] numbers) {
+        return numbers[random.nextInt(numbers.length)];
+    }
+
+    private void note(Object answer) {
+        answers.append(answer).append(' ');
+        calls++;
+    }
+
+    private void feed(boolean data, String characters) {
+        for (int i = 0; i < characters.length(); i += 8) {
+            long eight = Check.eight(characters.substring(i, Math.min(i + 8, characters.length())));
+            note(data ? press.data(eight) : press.text(eight));
+        }
+    }
+
+    private void draw() {
+        String answer;
+        try {
+            answer = Integer.toString(press.draw());
+        } catch (RuntimeException e) {
+            answer = e.getClass().getSimpleName();
+        }
+        boolean asSaid = answer.length() == 1 || answer.equals(Check.BAD_DATA) || answer.equals(Check.TOO_MUCH)
+            || answer.equals(Check.BAD_TEXT) || answer.equals(Check.BAD_COUNT) || answer.equals(Check.NO_ROOM);
         Check.due("draw answers or throws as said, not " + answer, asSaid, true);
-        return answer;
+        note(answer);
     }
 }

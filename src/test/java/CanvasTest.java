@@ -15,7 +15,7 @@ public final class CanvasTest {
     private static void widthsAndHeights() {
         int[] widths = {Integer.MIN_VALUE, -48, -1, 0, 1, 18, 19, 20, 21, 95, 96, 97, 256 + 48, 65536 + 48, Integer.MAX_VALUE};
         int[] heights = {Integer.MIN_VALUE, -32, -1, 0, 1, 17, 18, 19, 63, 64, 65, 96, 256 + 32, 65536 + 32, Integer.MAX_VALUE};
-        ChartPress press = new ChartPress();
+        Press press = new Press();
         for (int w : widths) {
             for (int h : heights) {
                 boolean want = w >= 20 && w <= 96 && h >= 18 && h <= 64;
@@ -26,7 +26,7 @@ public final class CanvasTest {
 
     /** "from now on": the next draw has its size. */
     private static void fromNowOn() {
-        ChartPress press = Check.press(96, 64, "a\n1\n", "bar x a y count");
+        Press press = Check.press(96, 64, "a\n1\n", "bar x a y count");
         Check.due("draw", Check.draw(press), "1");
         Check.due("pixel(95, 63)", press.pixel(95, 63), 0);
         Check.due("pixel(94, 56), the axis' end", press.pixel(94, 56), 1);
@@ -43,7 +43,7 @@ public final class CanvasTest {
     private static void whatWasDrawnIsGone() {
         int[][] sizes = {{48, 32}, {20, 18}, {96, 64}, {49, 32}, {48, 33}};
         for (int[] size : sizes) {
-            ChartPress press = Check.press("a\n1\n", "bar x a y count");
+            Press press = Check.press("a\n1\n", "bar x a y count");
             Check.due("draw", Check.draw(press), "1");
             Check.due("canvas", press.canvas(size[0], size[1]), true);
             Check.due("figures", Check.figures(press), NOTHING);
@@ -58,7 +58,7 @@ public final class CanvasTest {
 
     /** "False (changing nothing) for other numbers.": neither the canvas nor what was drawn. */
     private static void otherNumbersChangeNothing() {
-        ChartPress press = Check.press("a\n1\n", "bar x a y count");
+        Press press = Check.press("a\n1\n", "bar x a y count");
         Check.due("draw", Check.draw(press), "1");
         String picture = Check.picture(press, 48, 32);
         int[][] sizes = {{97, 32}, {48, 17}, {19, 32}, {48, 65}, {0, 0}, {-48, -32}};
@@ -74,7 +74,7 @@ public final class CanvasTest {
     }
 
     private static void dataAndTextStay() {
-        ChartPress press = Check.press("a\nx\n", "bar x a y count");
+        Press press = Check.press("a\nx\n", "bar x a y count");
         Check.due("canvas", press.canvas(30, 30), true);
         Check.due("column(0)", press.column(0), 3);
         Check.due("draw", Check.draw(press), "1");

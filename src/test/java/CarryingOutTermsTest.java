@@ -126,7 +126,7 @@ public final class CarryingOutTermsTest {
     private static void labelOfTheFirstRow() {
         Check.labelsAre("a,v\n1.0,\n1,5\n", "bar x a y count where v = 5", "1");
         Check.labelsAre("a,v\n0,1\n-0.00,2\n", "bar x a y sum v", "0");
-        ChartPress press = Check.drawnPress(96, 64, "a\n-0.00\n0\n", "bar x a y count");
+        Press press = Check.drawnPress(96, 64, "a\n-0.00\n0\n", "bar x a y count");
         // Ticks up to 2: LEFT is 14, the area 14 .. 94, its middle 54; five characters are 19 wide.
         Check.written("the label of zeros", press, 54 - 9, 58, "-0.00");
     }
@@ -238,7 +238,7 @@ public final class CarryingOutTermsTest {
     }
 
     private static void colours(String data, String text, String want) {
-        ChartPress press = Check.drawnPress(96, 64, data, text);
+        Press press = Check.drawnPress(96, 64, data, text);
         StringBuilder all = new StringBuilder();
         for (int group = 0; group < press.figure(0); group++) {
             all.append(group == 0 ? "" : " ").append(coloursOf(press, group));
@@ -247,7 +247,7 @@ public final class CarryingOutTermsTest {
     }
 
     /** The colours in a group's band, from below upward, each row of one colour once. */
-    private static String coloursOf(ChartPress press, int group) {
+    private static String coloursOf(Press press, int group) {
         long left = press.figure(1);
         int x = (int) (left + group * (95 - left) / press.figure(0));
         StringBuilder colours = new StringBuilder();

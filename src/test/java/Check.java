@@ -50,39 +50,39 @@ final class Check {
         return packed;
     }
 
-    static void feedData(ChartPress press, String data) {
+    static void feedData(Press press, String data) {
         for (int i = 0; i < data.length(); i += 8) {
             due("data", press.data(eight(data.substring(i, Math.min(i + 8, data.length())))), true);
         }
     }
 
-    static void feedText(ChartPress press, String text) {
+    static void feedText(Press press, String text) {
         for (int i = 0; i < text.length(); i += 8) {
             due("text", press.text(eight(text.substring(i, Math.min(i + 8, text.length())))), true);
         }
     }
 
-    static void refill(ChartPress press, String data, String text) {
+    static void refill(Press press, String data, String text) {
         press.wipe(true);
         press.wipe(false);
         feedData(press, data);
         feedText(press, text);
     }
 
-    static ChartPress press(String data, String text) {
-        ChartPress press = new ChartPress();
+    static Press press(String data, String text) {
+        Press press = new Press();
         refill(press, data, text);
         return press;
     }
 
-    static ChartPress press(int w, int h, String data, String text) {
-        ChartPress press = press(data, text);
+    static Press press(int w, int h, String data, String text) {
+        Press press = press(data, text);
         due("canvas", press.canvas(w, h), true);
         return press;
     }
 
     /** How many groups, or what was thrown. */
-    static String draw(ChartPress press) {
+    static String draw(Press press) {
         try {
             return Integer.toString(press.draw());
         } catch (RuntimeException e) {
@@ -99,8 +99,8 @@ final class Check {
     }
 
     /** A press that has drawn; that it throws nothing is looked at, too. */
-    static ChartPress drawnPress(int w, int h, String data, String text) {
-        ChartPress press = press(w, h, data, text);
+    static Press drawnPress(int w, int h, String data, String text) {
+        Press press = press(w, h, data, text);
         String answer = draw(press);
         due("draw of <" + data + "> by <" + text + "> answers a number and not " + answer, answer.length() == 1, true);
         return press;
@@ -124,7 +124,7 @@ final class Check {
 
     /** Labels of one character each, on a canvas on which all are shown. */
     static void labelsAre(String data, String text, String want) {
-        ChartPress press = drawnPress(96, 64, data, text);
+        Press press = drawnPress(96, 64, data, text);
         due("groups of <" + data + "> by <" + text + ">", press.figure(0), want.length());
         for (int i = 0; i < want.length(); i++) {
             int left = (int) press.figure(1);
@@ -135,7 +135,7 @@ final class Check {
     }
 
     /** The text is written with its upper left pixel at (x, y), and nothing else is in its pixels. */
-    static void written(String what, ChartPress press, int x, int y, String text) {
+    static void written(String what, Press press, int x, int y, String text) {
         StringBuilder got = new StringBuilder();
         StringBuilder want = new StringBuilder();
         for (int i = 0; i < text.length(); i++) {
@@ -146,7 +146,7 @@ final class Check {
     }
 
     /** The 3 by 5 pixels there as bits; a pixel that is neither 0 nor 2 makes it -1. */
-    private static int glyphAt(ChartPress press, int x, int y) {
+    private static int glyphAt(Press press, int x, int y) {
         int bits = 0;
         boolean pure = true;
         for (int bit = 0; bit < 15; bit++) {
@@ -158,7 +158,7 @@ final class Check {
     }
 
     /** Row y of what was drawn, from column x to column toX, a point for each 0. */
-    static String row(ChartPress press, int y, int x, int toX) {
+    static String row(Press press, int y, int x, int toX) {
         StringBuilder pixels = new StringBuilder();
         for (int at = x; at <= toX; at++) {
             pixels.append(shown(press.pixel(at, y)));
@@ -167,7 +167,7 @@ final class Check {
     }
 
     /** Column x of what was drawn, from row y downward to row toY. */
-    static String downward(ChartPress press, int x, int y, int toY) {
+    static String downward(Press press, int x, int y, int toY) {
         StringBuilder pixels = new StringBuilder();
         for (int at = y; at <= toY; at++) {
             pixels.append(shown(press.pixel(x, at)));
@@ -179,11 +179,8 @@ final class Check {
         return pixel == 0 ? "." : Integer.toString(pixel);
     }
 
-    /**
-     * What was drawn, a line for each row and a point for each 0. These are more calls than the 512 up to which
-     * the document promises anything; the program answers on as before.
-     */
-    static String picture(ChartPress press, int w, int h) {
+    /** What was drawn, a line for each row and a point for each 0. */
+    static String picture(Press press, int w, int h) {
         StringBuilder rows = new StringBuilder();
         for (int y = 0; y < h; y++) {
             rows.append(row(press, y, 0, w - 1)).append('\n');
@@ -191,7 +188,7 @@ final class Check {
         return rows.toString();
     }
 
-    static String figures(ChartPress press) {
+    static String figures(Press press) {
         StringBuilder all = new StringBuilder();
         for (int what = 0; what < 7; what++) {
             all.append(what == 0 ? "" : " ").append(press.figure(what));
@@ -199,7 +196,7 @@ final class Check {
         return all.toString();
     }
 
-    static String values(ChartPress press) {
+    static String values(Press press) {
         StringBuilder all = new StringBuilder();
         for (int i = 0; i < press.figure(0); i++) {
             all.append(i == 0 ? "" : " ").append(press.value(i));
@@ -209,7 +206,7 @@ final class Check {
 
     /** The types of the columns 0 .. 4. */
     static String columns(String data) {
-        ChartPress press = press(data, "");
+        Press press = press(data, "");
         StringBuilder all = new StringBuilder();
         for (int c = 0; c < 5; c++) {
             all.append(press.column(c));

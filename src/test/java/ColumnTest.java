@@ -18,7 +18,7 @@ public final class ColumnTest {
 
     /** "as the data are now read": it changes with every call of data and wipe. */
     private static void asTheDataAreNow() {
-        ChartPress press = new ChartPress();
+        Press press = new Press();
         Check.due("of no data", press.column(0), 1);
         Check.feedData(press, "a,b\n1,x\n");
         Check.due("column(0) of a row", press.column(0), 1);
@@ -38,12 +38,12 @@ public final class ColumnTest {
 
     /** "0 when there is none" */
     private static void noSuchColumn() {
-        ChartPress press = Check.press("a,b\n1,x\n", "");
+        Press press = Check.press("a,b\n1,x\n", "");
         int[] outside = {-1, 2, 3, 4, 5, 64, 256, 65536, Integer.MAX_VALUE, Integer.MIN_VALUE, Integer.MIN_VALUE + 1};
         for (int c : outside) {
             Check.due("column(" + c + ")", press.column(c), 0);
         }
-        ChartPress five = Check.press("a,b,c,d,e\n1,1,1,1,1\n", "");
+        Press five = Check.press("a,b,c,d,e\n1,1,1,1,1\n", "");
         Check.due("column(4) of five", five.column(4), 1);
         Check.due("column(5) of five", five.column(5), 0);
     }
@@ -67,7 +67,7 @@ public final class ColumnTest {
 
     /** A draw in between, or what it threw, changes no type, and column changes nothing that was drawn. */
     private static void whatDrawDidIsNoMatter() {
-        ChartPress press = Check.press("a,b\nx,2\n", "bar x a y sum b");
+        Press press = Check.press("a,b\nx,2\n", "bar x a y sum b");
         Check.due("draw", Check.draw(press), "1");
         String picture = Check.picture(press, 48, 32);
         Check.refill(press, "b,a\n2,x\n", "nonsense");

@@ -14,7 +14,7 @@ public final class DataTest {
 
     /** "the characters that are the bytes of eight, from the highest to the lowest: true" */
     private static void fromTheHighestToTheLowest() {
-        ChartPress press = new ChartPress();
+        Press press = new Press();
         Check.due("eight characters", press.data(Check.eight("b\n345678")), true);
         Check.feedText(press, "bar x b y max b");
         Check.due("draw", Check.draw(press), "1");
@@ -26,7 +26,7 @@ public final class DataTest {
 
     /** "zeros left out": wherever they stand, and also when there is nothing else. */
     private static void zerosLeftOut() {
-        ChartPress press = new ChartPress();
+        Press press = new Press();
         Check.due("nothing", press.data(0), true);
         Check.due("a, LF and zeros between", press.data(0x0061_0000_0a00_0000L), true);
         Check.due("12 and LF", press.data(0x0031_0032_0000_000aL), true);
@@ -41,17 +41,17 @@ public final class DataTest {
         for (int code = 1; code < 256; code++) {
             boolean allowed = code == 10 || code == 13 || code >= 32 && code <= 126;
             for (int shift = 0; shift < 64; shift += 8) {
-                Check.due("data with " + code + " at " + shift, new ChartPress().data((long) code << shift), allowed);
+                Check.due("data with " + code + " at " + shift, new Press().data((long) code << shift), allowed);
             }
         }
-        Check.due("data of -1", new ChartPress().data(-1), false);
-        Check.due("data of the least long", new ChartPress().data(Long.MIN_VALUE), false);
-        Check.due("data of the greatest long", new ChartPress().data(Long.MAX_VALUE), false);
+        Check.due("data of -1", new Press().data(-1), false);
+        Check.due("data of the least long", new Press().data(Long.MIN_VALUE), false);
+        Check.due("data of the greatest long", new Press().data(Long.MAX_VALUE), false);
     }
 
     /** A refused call changes nothing: no byte before the wrong one is kept, nor one behind it. */
     private static void refusedAsAWhole() {
-        ChartPress press = Check.press("a\n1", "");
+        Press press = Check.press("a\n1", "");
         Check.due("x before a byte 1", press.data(0x7801), false);
         Check.due("x behind a byte 200", press.data(0xc878), false);
         Check.due("x on both sides of a byte 127", press.data(0x787f78), false);
@@ -62,7 +62,7 @@ public final class DataTest {
 
     /** "or there would be more than 400": what is refused is not taken in part. */
     private static void moreThanFourHundredRefused() {
-        ChartPress press = new ChartPress();
+        Press press = new Press();
         for (int i = 0; i < 49; i++) {
             Check.due("data of eight", press.data(Check.eight("aaaaaaaa")), true);
         }
@@ -70,13 +70,13 @@ public final class DataTest {
         Check.due("up to 404", press.data(Check.eight("aaaaaaaa")), false);
         Check.due("up to 401", press.data(Check.eight("aaaaa")), false);
         Check.due("up to 400", press.data(Check.eight("aaaa")), true);
-        ChartPress eights = new ChartPress();
+        Press eights = new Press();
         for (int i = 0; i < 50; i++) {
             Check.due("data of eight", eights.data(Check.eight("aaaaaaaa")), true);
         }
         Check.due("data of eight more", eights.data(Check.eight("aaaaaaaa")), false);
         // Zeros are not counted.
-        ChartPress ones = new ChartPress();
+        Press ones = new Press();
         for (int i = 0; i < 400; i++) {
             Check.due("data of one", ones.data((long) 'a' << i % 8 * 8), true);
         }
@@ -85,7 +85,7 @@ public final class DataTest {
 
     /** Full data take nothing, refuse one, and take again after a wipe. */
     private static void fullData() {
-        ChartPress press = Check.press("a".repeat(400), "");
+        Press press = Check.press("a".repeat(400), "");
         Check.due("nothing more", press.data(0), true);
         Check.due("one more", press.data('a'), false);
         Check.due("a wrong one more", press.data(1), false);
@@ -104,7 +104,7 @@ public final class DataTest {
             data.append("11111,22222,33333,444444,55555").append(row == 11 ? "78" : "5\n");
         }
         Check.due("characters", data.length(), 400);
-        ChartPress press = Check.press(data.toString(), "bar x b y sum e");
+        Press press = Check.press(data.toString(), "bar x b y sum e");
         Check.due("one more", press.data(Check.eight("x")), false);
         Check.due("column(4), the last value has seven digits", press.column(4), 3);
         press.wipe(true);
@@ -119,7 +119,7 @@ public final class DataTest {
 
     /** Data that are appended, or refused, are not drawn by that. */
     private static void whatWasDrawnStays() {
-        ChartPress press = Check.press("a\n1\n", "bar x a y count");
+        Press press = Check.press("a\n1\n", "bar x a y count");
         Check.due("draw", Check.draw(press), "1");
         Check.due("data", press.data(Check.eight("2\n")), true);
         Check.due("data", press.data(1), false);

@@ -111,7 +111,7 @@ public final class DrawTest {
 
     /** "When it throws, what was drawn before stays (and is told still)." */
     private static void whatWasDrawnStays() {
-        ChartPress press = Check.press(TABLE, "bar x n y sum v");
+        Press press = Check.press(TABLE, "bar x n y sum v");
         Check.due("draw", Check.draw(press), "3");
         String picture = Check.picture(press, 48, 32);
         String figures = Check.figures(press);
@@ -132,7 +132,7 @@ public final class DrawTest {
 
     /** Also when that is nothing, since the canvas was changed. */
     private static void nothingDrawnStaysNothing() {
-        ChartPress press = Check.press(TABLE, "bar x d y sum v");
+        Press press = Check.press(TABLE, "bar x d y sum v");
         Check.due("draw", Check.draw(press), "3");
         // The labels are 39 wide.
         Check.due("canvas", press.canvas(38, 32), true);
@@ -155,10 +155,10 @@ public final class DrawTest {
             {"a\nabcdefghijklm\n", COUNT}, {"a\n\n", COUNT}, {"a\n1\n2\n3\n4\n5\n6\n7\n8\n9\n", COUNT}, {TABLE, "bar x n"},
             {TABLE, "bar x n y count where n > 1 where n > 2 order up stack t ticks 3 ticks"}, {"a\n-999999.999\n-999999.998\n", "line x a y sum a"}};
         for (String[] chart : charts) {
-            ChartPress alone = Check.press(chart[0], chart[1]);
+            Press alone = Check.press(chart[0], chart[1]);
             String answer = Check.draw(alone);
             for (String[] before : charts) {
-                ChartPress press = Check.press(before[0], before[1]);
+                Press press = Check.press(before[0], before[1]);
                 Check.draw(press);
                 Check.due("canvas", press.canvas(48, 32), true);
                 Check.refill(press, chart[0], chart[1]);

@@ -6,6 +6,7 @@ public final class DrawingTermsTest {
         ticksWithoutLabels();
         characters();
         labelsOverAxes();
+        nothingLiesOnLabels();
         coloursOfSeries();
         barColumns();
         barRows();
@@ -24,29 +25,29 @@ public final class DrawingTermsTest {
     /** "one over the other: all pixels 0": nothing of the chart before is left. */
     private static void allPixelsZeroFirst() {
         String data = "n,v\n1,1\n2,5\n4,2\n";
-        ChartPress once = Check.press(data, "line x n y max v");
+        Press once = Check.press(data, "line x n y max v");
         Check.draw(once);
-        ChartPress again = Check.press(data, "bar x n y max v ticks 9");
+        Press again = Check.press(data, "bar x n y max v ticks 9");
         Check.draw(again);
         Check.refill(again, data, "line x n y max v");
         Check.draw(again);
         Check.due("a line after bars", Check.picture(again, 48, 32), Check.picture(once, 48, 32));
         // Nor is anything of a chart on a greater canvas.
-        ChartPress great = Check.drawnPress(96, 64, data, "bar x n y max v");
+        Press great = Check.drawnPress(96, 64, data, "bar x n y max v");
         Check.due("canvas", great.canvas(48, 32), true);
         Check.refill(great, data, "line x n y max v");
         Check.draw(great);
         Check.due("on a smaller canvas", Check.picture(great, 48, 32), Check.picture(once, 48, 32));
         Check.due("canvas", great.canvas(96, 64), true);
         Check.draw(great);
-        ChartPress alone = Check.drawnPress(96, 64, data, "line x n y max v");
+        Press alone = Check.drawnPress(96, 64, data, "line x n y max v");
         Check.due("on the greater one again", Check.picture(great, 96, 64), Check.picture(alone, 96, 64));
     }
 
     /** "column LEFT - 1 from 1 to H - 9; row H - 8 from LEFT - 1 to W - 2; a pixel at LEFT - 2 in the row of each tick" */
     private static void axes() {
         // LEFT is 6; the ticks 0, 1, 2 are in the rows 9, 5 and 1.
-        ChartPress press = Check.drawnPress(20, 18, "a,v\n1,2\n2,0\n", "bar x a y sum v ticks 3");
+        Press press = Check.drawnPress(20, 18, "a,v\n1,2\n2,0\n", "bar x a y sum v ticks 3");
         Check.due("column LEFT - 1", Check.downward(press, 5, 0, 11), ".1111111111.");
         Check.due("column LEFT - 2", Check.downward(press, 4, 0, 11), ".1...1...1..");
         Check.due("row H - 8", Check.row(press, 10, 4, 20), ".11111111111111.-1");
@@ -82,7 +83,7 @@ public final class DrawingTermsTest {
 
     /** "the character with code c has in column i, row j ... one if bit 3 j + i of (c * 7919) >> 3 is 1; the next one begins 4 to the right" */
     private static void characters() {
-        ChartPress press = new ChartPress();
+        Press press = new Press();
         Check.due("canvas", press.canvas(96, 18), true);
         // LF, CR and 32 .. 126, twelve at a time, as the label of a single group.
         StringBuilder all = new StringBuilder("\n\r");
@@ -105,11 +106,34 @@ public final class DrawingTermsTest {
     /** "(its other pixels are left as they are)": the widest label there is room for leaves the axes whole. */
     private static void labelsOverAxes() {
         // The label of the only group is 1 .. 19, its rows are H - 6 .. H - 2.
-        ChartPress press = Check.drawnPress(20, 18, "a\nAAAAA\n", "bar x a y count ticks 3");
+        Press press = Check.drawnPress(20, 18, "a\nAAAAA\n", "bar x a y count ticks 3");
         Check.due("row H - 8", Check.row(press, 10, 12, 19), ".111111.");
         Check.due("A in row H - 6", Check.row(press, 12, 1, 3), glyphRow('A', 0));
         Check.due("A in row H - 2", Check.row(press, 16, 1, 3), glyphRow('A', 4));
         Check.due("row H - 1", Check.row(press, 17, 0, 19), ".".repeat(20));
+    }
+
+    /** The same on each canvas: labels of ticks are above row H - 6 and before LEFT - 2, so nothing lies on anything. */
+    private static void nothingLiesOnLabels() {
+        for (int w = 20; w <= 96; w += 4) {
+            for (int h = 18; h <= 64; h++) {
+                Press press = Check.drawnPress(w, h, "a,v\nAAAAA,2\nBBBBB,1\n", "bar x a y sum v ticks 3");
+                String picture = Check.picture(press, w, h);
+                // LEFT is 6; the ticks 0 and 1 are half the area apart, 2 is in row 1.
+                String labels = (h - 9) / 2 >= 6 ? "01AAAAA" : "0AAAAA";
+                labels += press.figure(6) == 1 ? "BBBBB" : "";
+                Check.due("pixels of labels on " + w + " by " + h, howOften(picture, '2'), ones(labels));
+                Check.due("pixels of axes on " + w + " by " + h, howOften(picture, '1'), h - 9 + w - 6 + 3);
+            }
+        }
+    }
+
+    private static long howOften(String picture, char pixel) {
+        return picture.chars().filter(c -> c == pixel).count();
+    }
+
+    private static long ones(String label) {
+        return label.chars().map(c -> Integer.bitCount(c * 7919 >> 3 & 0x7fff)).sum();
     }
 
     private static String glyphRow(char c, int j) {
@@ -149,7 +173,7 @@ public final class DrawingTermsTest {
         for (char c = 'a'; c <= 'l'; c++) {
             data.append("1,").append(c).append('\n');
         }
-        ChartPress press = Check.drawnPress(96, 64, data.toString(), "bar x a y count stack k");
+        Press press = Check.drawnPress(96, 64, data.toString(), "bar x a y count stack k");
         // Ticks 0, 5, 10, 15: LEFT is 10, the row of v is 55 - 54 v / 15.
         for (int s = 0; s < 12; s++) {
             int row = 55 - (2 * 54 * (s + 1) + 15) / 30;
@@ -159,7 +183,7 @@ public final class DrawingTermsTest {
 
     /** "the columns of its band but the last one (all, if it has only one)": each band has 2 at least, so 1 is drawn. */
     private static void barColumns() {
-        ChartPress press = Check.drawnPress(20, 18, "a\n1\n1\n2\n2\n3\n3\n4\n4\n5\n5\n6\n6\n", "bar x a y count ticks 3");
+        Press press = Check.drawnPress(20, 18, "a\n1\n1\n2\n2\n3\n3\n4\n4\n5\n5\n6\n6\n", "bar x a y count ticks 3");
         for (int y = 1; y <= 9; y++) {
             Check.due("row " + y, Check.row(press, y, 6, 19), "3.3.3.3.3.33..");
         }
@@ -169,7 +193,7 @@ public final class DrawingTermsTest {
     /** "all rows from the row of its lower end to that of its upper end": of 0, too, on both sides of it. */
     private static void barRows() {
         // -2 .. 2 in nine rows: 0 is in row 5. LEFT is 10, the bands of 4 groups on 31 are 5 wide.
-        ChartPress press = Check.drawnPress(31, 18, "a,v\n1,2\n2,-2\n3,1\n4,-0.5\n", "bar x a y sum v");
+        Press press = Check.drawnPress(31, 18, "a,v\n1,2\n2,-2\n3,1\n4,-0.5\n", "bar x a y sum v");
         Check.due("2", Check.downward(press, 10, 1, 9), "33333....");
         Check.due("-2", Check.downward(press, 15, 1, 9), "....33333");
         Check.due("1", Check.downward(press, 20, 1, 9), "..333....");
@@ -189,7 +213,7 @@ public final class DrawingTermsTest {
 
     /** The column of the only group of a stack, from the area's uppermost row to its lowest. */
     private static String stack(int h, String rows) {
-        ChartPress press = Check.drawnPress(60, h, "a,v,k\n" + rows, "bar x a y sum v stack k");
+        Press press = Check.drawnPress(60, h, "a,v,k\n" + rows, "bar x a y sum v stack k");
         return Check.downward(press, (int) press.figure(1), 1, h - 9);
     }
 
@@ -261,7 +285,7 @@ public final class DrawingTermsTest {
 
     /** The first column of the first of two bars. */
     private static String bar(int h, String rows) {
-        ChartPress press = Check.drawnPress(60, h, "a,v\n" + rows, "bar x a y sum v");
+        Press press = Check.drawnPress(60, h, "a,v\n" + rows, "bar x a y sum v");
         return Check.downward(press, (int) press.figure(1), 1, h - 9);
     }
 
@@ -275,14 +299,14 @@ public final class DrawingTermsTest {
         Check.due("0 and 4", stack(18, "1,0,p\n1,4,q\n"), "444444444");
         Check.due("4 and 0", stack(18, "1,4,p\n1,0,q\n"), "333333333");
         // A mean of a third of a thousandth is not 0.
-        ChartPress press = Check.drawnPress(60, 18, "a,v\n1,0.001\n1,0\n1,0\n2,4\n", "bar x a y mean v");
+        Press press = Check.drawnPress(60, 18, "a,v\n1,0.001\n1,0\n1,0\n2,4\n", "bar x a y mean v");
         Check.due("a bar of a third of a thousandth", Check.downward(press, (int) press.figure(1), 1, 9), "........3");
     }
 
     /** "point: the pixel at middle and row, and the four beside it that are in the area" */
     private static void pointsInTheArea() {
         // Bands of 2 columns begin at their middle, LEFT + 2 i: the first point is at LEFT, and none goes into the axes.
-        ChartPress narrow = Check.drawnPress(23, 18, "a,v\n1,1\n2,2\n3,0\n4,2\n5,0\n6,2\n7,0\n8,2\n", "point x a y sum v ticks 3");
+        Press narrow = Check.drawnPress(23, 18, "a,v\n1,1\n2,2\n3,0\n4,2\n5,0\n6,2\n7,0\n8,2\n", "point x a y sum v ticks 3");
         Check.due("row 0", Check.row(narrow, 0, 4, 22), "...................");
         Check.due("row 1", Check.row(narrow, 1, 4, 22), "11.333.333.333.333.");
         Check.due("row 4", Check.row(narrow, 4, 4, 22), ".13................");
@@ -317,7 +341,7 @@ public final class DrawingTermsTest {
     /** All five pixels, where the area has them. */
     private static void pointsBesideOneAnother() {
         // LEFT is 6, the area 6 .. 18 and 1 .. 9, its middle 12; 1 of 0 .. 2 is in row 5.
-        ChartPress press = Check.drawnPress(20, 18, "a,v\n1,1\n", "point x a y sum v ticks 3");
+        Press press = Check.drawnPress(20, 18, "a,v\n1,1\n", "point x a y sum v ticks 3");
         Check.due("row 3", Check.row(press, 3, 6, 18), ".............");
         Check.due("row 4", Check.row(press, 4, 6, 18), "......3......");
         Check.due("row 5", Check.row(press, 5, 6, 18), ".....333.....");
@@ -327,7 +351,7 @@ public final class DrawingTermsTest {
 
     /** "line: the points (one pixel)": of one group there is nothing else. */
     private static void lineOfOnePoint() {
-        ChartPress press = Check.drawnPress(20, 18, "a,v\n1,1\n", "line x a y sum v ticks 3");
+        Press press = Check.drawnPress(20, 18, "a,v\n1,1\n", "line x a y sum v ticks 3");
         for (int y = 1; y <= 9; y++) {
             Check.due("row " + y, Check.row(press, y, 6, 18), y == 5 ? "......3......" : ".............");
         }
@@ -390,7 +414,7 @@ public final class DrawingTermsTest {
     private static void linesOfAllSlopes() {
         for (int w = 20; w <= 96; w += 4) {
             for (int h = 18; h <= 64; h += 3) {
-                ChartPress press = Check.drawnPress(w, h, "a,v\np,0\nq,2\nr,1\n", "line x a y sum v ticks 3");
+                Press press = Check.drawnPress(w, h, "a,v\np,0\nq,2\nr,1\n", "line x a y sum v ticks 3");
                 int area = w - 7;
                 int[] xs = {(6 + 6 + area / 3 - 1) / 2, (6 + area / 3 + 6 + 2 * area / 3 - 1) / 2, (6 + 2 * area / 3 + 6 + area - 1) / 2};
                 int[] ys = {h - 9, 1, h - 9 - (h - 10 + 1) / 2};
@@ -421,7 +445,7 @@ public final class DrawingTermsTest {
         }
     }
 
-    private static String marks(ChartPress press, int w, int h) {
+    private static String marks(Press press, int w, int h) {
         StringBuilder all = new StringBuilder();
         for (int i = 0; i < w * h; i++) {
             all.append(press.pixel(i % w, i / w) == 3 ? '3' : '.').append(i % w == w - 1 ? "\n" : "");

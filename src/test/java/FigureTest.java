@@ -11,7 +11,7 @@ public final class FigureTest {
 
     /** "0 how many groups, 1 LEFT, 2 FIRST, 3 LAST, 4 the step (these three in thousandths), 5 how many ticks, 6 k of the labels" */
     private static void eachFigure() {
-        ChartPress press = Check.drawnPress(48, 32, "a,v\nabcd,-3\nefgh,7.5\nijkl,2\n", "bar x a y sum v ticks 4");
+        Press press = Check.drawnPress(48, 32, "a,v\nabcd,-3\nefgh,7.5\nijkl,2\n", "bar x a y sum v ticks 4");
         // -3 .. 7.5 with four ticks at most: -5, 0, 5, 10. The middles 15, 27 and 40 are too near for labels of 15.
         long[] due = {3, 10, -5000, 10000, 5000, 4, 2};
         for (int what = 0; what < due.length; what++) {
@@ -27,7 +27,7 @@ public final class FigureTest {
 
     /** "-1 for others" */
     private static void others() {
-        ChartPress press = Check.press("a,v\n1,5\n2,6\n", "bar x a y sum v");
+        Press press = Check.press("a,v\n1,5\n2,6\n", "bar x a y sum v");
         Check.due("draw", Check.draw(press), "2");
         int[] others = {-1, 7, 8, 256, 65536, Integer.MAX_VALUE, Integer.MIN_VALUE, Integer.MIN_VALUE + 1};
         for (int what : others) {
@@ -37,7 +37,7 @@ public final class FigureTest {
 
     /** "or when nothing was drawn" */
     private static void nothingDrawn() {
-        ChartPress press = Check.press("a,v\n1,5\n2,6\n", "bar x a y sum v");
+        Press press = Check.press("a,v\n1,5\n2,6\n", "bar x a y sum v");
         Check.due("figures before anything is drawn", Check.figures(press), "-1 -1 -1 -1 -1 -1 -1");
         Check.due("draw", Check.draw(press), "2");
         Check.due("figures", Check.figures(press), "2 6 0 6000 2000 4 1");
@@ -47,7 +47,7 @@ public final class FigureTest {
 
     /** "Of what was drawn": not of data, text and canvas as they are now. */
     private static void ofWhatWasDrawn() {
-        ChartPress press = Check.press("a,v\n1,5\n2,6\n", "bar x a y sum v");
+        Press press = Check.press("a,v\n1,5\n2,6\n", "bar x a y sum v");
         Check.due("draw", Check.draw(press), "2");
         Check.refill(press, "a,v\n1,-7\n", "bar x a y sum v");
         Check.due("figures, not drawn yet", Check.figures(press), "2 6 0 6000 2000 4 1");

@@ -9,6 +9,7 @@ public final class LayoutTermsTest {
         twoColumnsForEachGroup();
         noAreaAtAll();
         bands();
+        bandsOnEachCanvas();
         middles();
         firstAndLastRow();
         halvesUp();
@@ -23,6 +24,7 @@ public final class LayoutTermsTest {
         labelThatDoesNotFit();
         labelsOfTicksEnd();
         labelsOfTicksOnTheCanvas();
+        labelOfTheLastTick();
         aRowBetweenLabelsOfTicks();
         Check.end();
     }
@@ -40,7 +42,7 @@ public final class LayoutTermsTest {
     private static void canvasOfOtherSizes() {
         int[][] sizes = {{20, 18}, {96, 64}, {20, 64}, {96, 18}, {33, 21}};
         for (int[] size : sizes) {
-            ChartPress press = Check.drawnPress(size[0], size[1], table(2, "p"), PAIRS);
+            Press press = Check.drawnPress(size[0], size[1], table(2, "p"), PAIRS);
             int bottom = size[1] - 9;
             Check.due("the first tick's pixel", press.pixel(4, bottom), 1);
             Check.due("the last tick's pixel", press.pixel(4, 1), 1);
@@ -54,7 +56,7 @@ public final class LayoutTermsTest {
         String[][] rows = {
             {"2", "6"}, {"9", "10"}, {"-2", "10"}, {"40", "10"}, {"100", "14"}, {"-40", "14"}, {"1000", "18"}, {"0.01", "22"}, {"-0.01", "26"}};
         for (String[] row : rows) {
-            ChartPress press = Check.drawnPress(96, 64, "a,v\n1," + row[0] + "\n", "bar x a y sum v ticks 3");
+            Press press = Check.drawnPress(96, 64, "a,v\n1," + row[0] + "\n", "bar x a y sum v ticks 3");
             Check.due("LEFT for a bar of " + row[0], Long.toString(press.figure(1)), row[1]);
         }
         // 10, the last tick, is never shown; of 0, 0.5 and 1 the middle one is not shown on a canvas of 18.
@@ -108,8 +110,31 @@ public final class LayoutTermsTest {
     }
 
     private static void barsAre(int w, String want, String... labels) {
-        ChartPress press = Check.drawnPress(w, 18, table(2, labels), PAIRS);
+        Press press = Check.drawnPress(w, 18, table(2, labels), PAIRS);
         Check.due("bars of " + labels.length + " groups on " + w, Check.row(press, 1, 6, w - 2), want);
+    }
+
+    /** The same on each canvas: since the area "has at least 2 columns for each group", so has each band. */
+    private static void bandsOnEachCanvas() {
+        String data = "a,v\n";
+        for (int n = 1; n <= 8; n++) {
+            data += n + ",2\n";
+            for (int w = Math.max(20, 7 + 2 * n); w <= 96; w++) {
+                Press press = Check.drawnPress(w, 18, data, "bar x a y sum v ticks 3");
+                Check.due("bars of " + n + " groups on " + w, Check.row(press, 1, 6, w - 2), bars(n, w - 7));
+            }
+        }
+    }
+
+    /** Each band but its last column. */
+    private static String bars(int n, int area) {
+        StringBuilder row = new StringBuilder();
+        for (int i = 0; i < n; i++) {
+            int columns = (i + 1) * area / n - i * area / n;
+            Check.due("the band has at least 2 columns", columns >= 2, true);
+            row.append("3".repeat(columns - 1)).append('.');
+        }
+        return row.toString();
     }
 
     /** "its MIDDLE is the half of the sum of these two (whole)" */
@@ -120,14 +145,14 @@ public final class LayoutTermsTest {
     }
 
     /** A line of one point at 1 of 0 .. 2: a single pixel in row 5 of 1 .. 9. */
-    private static ChartPress middle(int w, String label) {
+    private static Press middle(int w, String label) {
         return Check.drawnPress(w, 18, "a,v\n" + label + ",1\n", "line x a y sum v ticks 3");
     }
 
     /** "The ROW of a value v is H - 9 - R": FIRST is in the area's lowest row, LAST in its uppermost. */
     private static void firstAndLastRow() {
         for (int h = 18; h <= 64; h++) {
-            ChartPress press = Check.drawnPress(20, h, "a,v\np,-7\nq,-5\n", "line x a y sum v ticks 3");
+            Press press = Check.drawnPress(20, h, "a,v\np,-7\nq,-5\n", "line x a y sum v ticks 3");
             // Ticks of two characters: LEFT is 10, the bands 10 .. 13 and 14 .. 18, the middles 11 and 16.
             Check.due("FIRST on " + h, press.pixel(11, h - 9), 3);
             Check.due("LAST on " + h, press.pixel(16, 1), 3);
@@ -154,14 +179,14 @@ public final class LayoutTermsTest {
         rowIs(18, "1.874", 2);
         rowIs(18, "1.875", 1);
         // Below 0, too, a half goes up and not away from 0: -1 of -2 .. 0 is 4.5 rows above the lowest.
-        ChartPress press = Check.drawnPress(40, 19, "a,v\np,-2\nq,-1\nr,0\n", "line x a y sum v ticks 3");
+        Press press = Check.drawnPress(40, 19, "a,v\np,-2\nq,-1\nr,0\n", "line x a y sum v ticks 3");
         // LEFT is 10, the second band 19 .. 28.
         Check.due("the row of -1", Check.downward(press, 23, 1, 10), "....3.....");
     }
 
     /** The second of three groups: LEFT is 6, the bands are 6 .. 16, 17 .. 27, 28 .. 38, the middles 11, 22, 33. */
     private static void rowIs(int h, String value, int want) {
-        ChartPress press = Check.drawnPress(40, h, "a,v\np,0\nq," + value + "\nr,2\n", "line x a y sum v ticks 3");
+        Press press = Check.drawnPress(40, h, "a,v\np,0\nq," + value + "\nr,2\n", "line x a y sum v ticks 3");
         String column = ".".repeat(want - 1) + "3" + ".".repeat(h - 9 - want);
         Check.due("the row of " + value + " on " + h, Check.downward(press, 22, 1, h - 9), column);
     }
@@ -169,7 +194,7 @@ public final class LayoutTermsTest {
     /** A sixth of 0 .. 3 is just a half row of nine; what is cut to thousandths would be less. */
     private static void exactRows() {
         String data = "a,v\np,0\nq,1\n" + "q,0\n".repeat(5) + "r,3\n";
-        ChartPress press = Check.drawnPress(40, 19, data, "line x a y mean v ticks 4");
+        Press press = Check.drawnPress(40, 19, data, "line x a y mean v ticks 4");
         Check.due("the row of a sixth", Check.downward(press, 22, 1, 10), "........3.");
     }
 
@@ -184,7 +209,7 @@ public final class LayoutTermsTest {
         // The middle of 6 .. 93 is 49.
         labelIs(95, "p", 48);
         for (int h = 18; h <= 64; h++) {
-            ChartPress press = Check.drawnPress(48, h, table(2, "p"), PAIRS);
+            Press press = Check.drawnPress(48, h, table(2, "p"), PAIRS);
             Check.written("a label on " + h, press, 25, h - 6, "p");
             Check.due("above it", Check.row(press, h - 7, 6, 47), ".".repeat(42));
             Check.due("below it", Check.row(press, h - 1, 0, 47), ".".repeat(48));
@@ -193,7 +218,7 @@ public final class LayoutTermsTest {
 
     /** A group of two rows, alone on a canvas 18 high: where its label begins. */
     private static void labelIs(int w, String label, int x) {
-        ChartPress press = Check.drawnPress(w, 18, table(2, label), PAIRS);
+        Press press = Check.drawnPress(w, 18, table(2, label), PAIRS);
         int end = x + 4 * label.length() - 1;
         Check.written("a label on " + w, press, x, 12, label);
         for (int y = 12; y <= 16; y++) {
@@ -215,7 +240,7 @@ public final class LayoutTermsTest {
     }
 
     private static void firstLabelIs(String label, int x, String... others) {
-        ChartPress press = Check.drawnPress(20, 18, table(2, label) + table(2, others).substring(2), PAIRS);
+        Press press = Check.drawnPress(20, 18, table(2, label) + table(2, others).substring(2), PAIRS);
         Check.written("the first label", press, x, 12, label);
     }
 
@@ -228,17 +253,17 @@ public final class LayoutTermsTest {
         lastLabelIs("abcd", 5);
         lastLabelIs("abcde", 1);
         // As wide as the canvas: it begins at 0.
-        ChartPress press = Check.drawnPress(23, 18, "a\nabcdef\n", "bar x a y count ticks 3");
+        Press press = Check.drawnPress(23, 18, "a\nabcdef\n", "bar x a y count ticks 3");
         Check.written("a label as wide as the canvas", press, 0, 12, "abcdef");
     }
 
     private static void lastLabelIs(String label, int x) {
-        ChartPress press = Check.drawnPress(20, 18, "a\n" + label + "\n", "bar x a y count ticks 3");
+        Press press = Check.drawnPress(20, 18, "a\n" + label + "\n", "bar x a y count ticks 3");
         Check.written("a label near the end", press, x, 12, label);
     }
 
     private static void strideIs(int w, long want, String... labels) {
-        ChartPress press = Check.drawnPress(w, 18, table(1, labels), "bar x a y count ticks 3");
+        Press press = Check.drawnPress(w, 18, table(1, labels), "bar x a y count ticks 3");
         Check.due("k of " + String.join(" ", labels) + " on " + w, press.figure(6), want);
     }
 
@@ -267,7 +292,7 @@ public final class LayoutTermsTest {
         strideIs(41, 2, "a", "bcdef");
         strideIs(41, 1, "a", "bcde");
         // The first is put on from -1 to 0, so that it ends at 30, one before the second.
-        ChartPress press = Check.drawnPress(43, 18, table(2, "abcdefgh", "i"), PAIRS);
+        Press press = Check.drawnPress(43, 18, table(2, "abcdefgh", "i"), PAIRS);
         Check.due("k behind a label that is put on", press.figure(6), 2);
     }
 
@@ -293,7 +318,7 @@ public final class LayoutTermsTest {
     private static void onlyEveryKthLabel() {
         // LEFT is 14, the area 14 .. 94 has 81 columns, the bands of 8 begin at 14, 24, 34, 44, 54, 64, 74, 84.
         String[] labels = {"axx", "bxx", "cxx", "dxx", "exx", "fxx", "gxx", "hxx"};
-        ChartPress press = Check.drawnPress(96, 18, table(1, labels), "bar x a y count ticks 3");
+        Press press = Check.drawnPress(96, 18, table(1, labels), "bar x a y count ticks 3");
         int[] middles = {18, 28, 38, 48, 58, 68, 78, 89};
         for (int i = 0; i < 8; i += 2) {
             Check.written("label " + i, press, middles[i] - 5, 12, labels[i]);
@@ -327,7 +352,7 @@ public final class LayoutTermsTest {
 
     /** "Labels of ticks end at LEFT - 3, their middle row is that of the tick" */
     private static void labelsOfTicksEnd() {
-        ChartPress press = Check.drawnPress(40, 42, "a\n1\n", "bar x a y count ticks 3");
+        Press press = Check.drawnPress(40, 42, "a\n1\n", "bar x a y count ticks 3");
         // LEFT is 14, the rows are 33, 17 and 1.
         Check.written("0", press, 9, 31, "0");
         Check.written("0.5", press, 1, 15, "0.5");
@@ -340,14 +365,14 @@ public final class LayoutTermsTest {
     /** "each is shown that is on the canvas from its upper to its lower row": in row 2, but not in row 1. */
     private static void labelsOfTicksOnTheCanvas() {
         // Seven ticks in nine rows: 9, 8, 6, 5, 4, 2, 1. The label in row 2 is the next with a row between.
-        ChartPress press = Check.drawnPress(20, 18, "a,v\n1,6\n", "bar x a y sum v ticks 7");
+        Press press = Check.drawnPress(20, 18, "a,v\n1,6\n", "bar x a y sum v ticks 7");
         Check.due("ticks' pixels", Check.downward(press, 4, 0, 9), ".11.111.11");
         Check.written("0", press, 1, 7, "0");
         Check.written("5", press, 1, 0, "5");
         Check.due("row 5", Check.row(press, 5, 0, 3), "....");
         Check.due("row 6", Check.row(press, 6, 0, 3), "....");
         // Two ticks: the second one's label would be in row 1.
-        ChartPress two = Check.drawnPress(20, 64, "a,v\n1,5\n", "bar x a y sum v ticks 3");
+        Press two = Check.drawnPress(20, 64, "a,v\n1,5\n", "bar x a y sum v ticks 3");
         Check.due("ticks", two.figure(5), 2);
         Check.written("0", two, 1, 53, "0");
         for (int y = 0; y < 53; y++) {
@@ -355,23 +380,35 @@ public final class LayoutTermsTest {
         }
     }
 
+    /** The same on each canvas: LAST is in row 1, so the upper row of its label would be -1. */
+    private static void labelOfTheLastTick() {
+        for (int h = 18; h <= 64; h++) {
+            Press press = Check.drawnPress(20, h, table(2, "p"), PAIRS);
+            Check.due("the pixel of LAST on a height of " + h, Check.downward(press, 4, 0, 2), ".1.");
+            for (int y = 0; y <= 2; y++) {
+                Check.due("row " + y + " on a height of " + h, Check.row(press, y, 0, 3), "....");
+            }
+            Check.written("the label of FIRST on a height of " + h, press, 1, h - 11, "0");
+        }
+    }
+
     /** "if its lowest row is above the uppermost of the one shown last with a row between at least" */
     private static void aRowBetweenLabelsOfTicks() {
         // Three ticks in 13 rows: 13, 7, 1. The first label is 11 .. 15, the second 5 .. 9.
-        ChartPress six = Check.drawnPress(20, 22, table(2, "p"), PAIRS);
+        Press six = Check.drawnPress(20, 22, table(2, "p"), PAIRS);
         Check.written("0", six, 1, 11, "0");
         Check.written("1", six, 1, 5, "1");
         // In 12 rows: 12, 6 (5.5 is 6 rows up), 1; in 11 rows: 11, 6, 1, with no row between.
-        ChartPress half = Check.drawnPress(20, 21, table(2, "p"), PAIRS);
+        Press half = Check.drawnPress(20, 21, table(2, "p"), PAIRS);
         Check.written("0", half, 1, 10, "0");
         Check.written("1", half, 1, 4, "1");
-        ChartPress five = Check.drawnPress(20, 20, table(2, "p"), PAIRS);
+        Press five = Check.drawnPress(20, 20, table(2, "p"), PAIRS);
         Check.written("0", five, 1, 9, "0");
         for (int y = 0; y < 9; y++) {
             Check.due("row " + y, Check.row(five, y, 0, 3), "....");
         }
         // Five ticks in 13 rows: 13, 10, 7, 4, 1. The one shown last is what counts, not the one before.
-        ChartPress every = Check.drawnPress(20, 22, "a,v\n1,4\n", "bar x a y sum v");
+        Press every = Check.drawnPress(20, 22, "a,v\n1,4\n", "bar x a y sum v");
         Check.written("0", every, 1, 11, "0");
         Check.due("row 10", Check.row(every, 10, 0, 3), "....");
         Check.written("2", every, 1, 5, "2");

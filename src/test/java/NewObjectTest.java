@@ -10,7 +10,7 @@ public final class NewObjectTest {
     }
 
     private static void noData() {
-        ChartPress press = new ChartPress();
+        Press press = new Press();
         Check.due("column(0), without a name", press.column(0), 1);
         Check.due("column(1)", press.column(1), 0);
         Check.due("draw without data and text", Check.draw(press), Check.BAD_TEXT);
@@ -19,7 +19,7 @@ public final class NewObjectTest {
     }
 
     private static void noText() {
-        ChartPress press = new ChartPress();
+        Press press = new Press();
         Check.feedData(press, "a\n1\n");
         Check.due("draw without text", Check.draw(press), Check.BAD_TEXT);
         Check.feedText(press, "bar x a y count" + " ".repeat(145));
@@ -28,7 +28,7 @@ public final class NewObjectTest {
     }
 
     private static void canvas() {
-        ChartPress press = Check.press("a\n1\n", "bar x a y count");
+        Press press = Check.press("a\n1\n", "bar x a y count");
         Check.due("draw", Check.draw(press), "1");
         Check.due("pixel(47, 31)", press.pixel(47, 31), 0);
         Check.due("pixel(48, 31)", press.pixel(48, 31), -1);
@@ -37,7 +37,7 @@ public final class NewObjectTest {
     }
 
     private static void nothingDrawn() {
-        ChartPress press = new ChartPress();
+        Press press = new Press();
         Check.due("figures", Check.figures(press), "-1 -1 -1 -1 -1 -1 -1");
         for (int i = -1; i <= 8; i++) {
             Check.due("value(" + i + ")", press.value(i), 0);
@@ -51,9 +51,9 @@ public final class NewObjectTest {
 
     /** What one object has been given is no other's. */
     private static void eachObjectForItself() {
-        ChartPress used = Check.press(96, 64, "a\nx\n", "bar x a y count");
+        Press used = Check.press(96, 64, "a\nx\n", "bar x a y count");
         Check.due("draw", Check.draw(used), "1");
-        ChartPress fresh = new ChartPress();
+        Press fresh = new Press();
         Check.due("column(0)", fresh.column(0), 1);
         Check.due("draw", Check.draw(fresh), Check.BAD_TEXT);
         Check.due("figure(0)", fresh.figure(0), -1);

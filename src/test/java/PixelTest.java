@@ -11,7 +11,7 @@ public final class PixelTest {
     /** "The pixel in column x, row y": x is told first, and both are from 0. */
     private static void columnAndRow() {
         // LEFT is 6: the axis is column 5 and row 23, the bar of two rows 6 .. 45 and 1 .. 23.
-        ChartPress press = Check.press("a\n1\n1\n", "bar x a y count ticks 3");
+        Press press = Check.press("a\n1\n1\n", "bar x a y count ticks 3");
         Check.due("draw", Check.draw(press), "1");
         Check.due("pixel(5, 23)", press.pixel(5, 23), 1);
         Check.due("pixel(23, 5)", press.pixel(23, 5), 3);
@@ -28,7 +28,7 @@ public final class PixelTest {
         for (int[] size : sizes) {
             int w = size[0];
             int h = size[1];
-            ChartPress press = Check.press(w, h, "a\n1\n", "point x a y count");
+            Press press = Check.press(w, h, "a\n1\n", "point x a y count");
             Check.due("draw", Check.draw(press), "1");
             int[][] outside = {
                 {-1, 0}, {0, -1}, {w, 0}, {0, h}, {w, h}, {w - 1, h}, {w, h - 1}, {-1, h - 1}, {w - 1, -1}, {96, 0}, {0, 64},
@@ -46,20 +46,20 @@ public final class PixelTest {
 
     /** "(nothing was drawn ...)": not yet, or the canvas is another. */
     private static void nothingDrawn() {
-        ChartPress press = Check.press("a\n1\n", "point x a y count");
+        Press press = Check.press("a\n1\n", "point x a y count");
         Check.due("pixel(0, 0) before anything is drawn", press.pixel(0, 0), -1);
         Check.due("draw", Check.draw(press), "1");
         Check.due("pixel(0, 0)", press.pixel(0, 0), 0);
         Check.due("canvas", press.canvas(48, 32), true);
         Check.due("pixel(0, 0) when it is gone", press.pixel(0, 0), -1);
-        ChartPress failed = Check.press("a\n", "point x a y count");
+        Press failed = Check.press("a\n", "point x a y count");
         Check.due("draw", Check.draw(failed), Check.BAD_COUNT);
         Check.due("pixel(0, 0) when nothing could be drawn", failed.pixel(0, 0), -1);
     }
 
     /** "of what was drawn": other data and texts change nothing before the next draw. */
     private static void ofWhatWasDrawn() {
-        ChartPress press = Check.press("a,v\n1,5\n2,6\n", "bar x a y sum v");
+        Press press = Check.press("a,v\n1,5\n2,6\n", "bar x a y sum v");
         Check.due("draw", Check.draw(press), "2");
         String picture = Check.picture(press, 48, 32);
         Check.refill(press, "a,v\n1,7\n", "line x a y sum v");

@@ -144,14 +144,14 @@ public final class ScalesTermsTest {
     private static void fiveTicksIfNothingSays() {
         for (int value = 1; value <= 12; value++) {
             String data = "a,v\n1," + value + "\n";
-            ChartPress unsaid = Check.drawnPress(96, 64, data, "bar x a y sum v");
-            ChartPress five = Check.drawnPress(96, 64, data, "bar x a y sum v ticks 5");
+            Press unsaid = Check.drawnPress(96, 64, data, "bar x a y sum v");
+            Press five = Check.drawnPress(96, 64, data, "bar x a y sum v ticks 5");
             Check.due("figures for " + value, Check.figures(unsaid), Check.figures(five));
         }
         bar("4", "1 6 0 4000 1000 5 1");
         bar("5", "1 6 0 6000 2000 4 1");
         // The number of a chart before does not stay.
-        ChartPress press = Check.drawnPress(96, 64, "a,v\n1,8\n", "bar x a y sum v ticks 9");
+        Press press = Check.drawnPress(96, 64, "a,v\n1,8\n", "bar x a y sum v ticks 9");
         Check.due("ticks", press.figure(5), 9);
         Check.refill(press, "a,v\n1,8\n", "bar x a y sum v");
         Check.due("draw", Check.draw(press), "1");
@@ -186,7 +186,7 @@ public final class ScalesTermsTest {
 
     /** The labels of all ticks but the last, whose row is 1, so that it can't be shown. */
     private static void ticksAre(String data, String text, String... labels) {
-        ChartPress press = Check.drawnPress(96, 64, data, text);
+        Press press = Check.drawnPress(96, 64, data, text);
         int left = (int) press.figure(1);
         Check.due("ticks of <" + data + ">", press.figure(5), labels.length);
         for (int i = 0; i < labels.length - 1; i++) {

@@ -11,7 +11,7 @@ public final class TextTest {
 
     /** "alike": the bytes from the highest to the lowest, zeros left out. */
     private static void fromTheHighestToTheLowest() {
-        ChartPress press = Check.press("a\n1\n", "");
+        Press press = Check.press("a\n1\n", "");
         Check.due("nothing", press.text(0), true);
         Check.due("text", press.text(0x0062_0061_0072_0020L), true);
         Check.due("text", press.text(Check.eight("x a y co")), true);
@@ -24,17 +24,17 @@ public final class TextTest {
         for (int code = 1; code < 256; code++) {
             boolean allowed = code >= 32 && code <= 126;
             for (int shift = 0; shift < 64; shift += 8) {
-                Check.due("text with " + code + " at " + shift, new ChartPress().text((long) code << shift), allowed);
+                Check.due("text with " + code + " at " + shift, new Press().text((long) code << shift), allowed);
             }
         }
-        Check.due("text of -1", new ChartPress().text(-1), false);
-        Check.due("text of the least long", new ChartPress().text(Long.MIN_VALUE), false);
-        Check.due("text of the greatest long", new ChartPress().text(Long.MAX_VALUE), false);
+        Check.due("text of -1", new Press().text(-1), false);
+        Check.due("text of the least long", new Press().text(Long.MIN_VALUE), false);
+        Check.due("text of the greatest long", new Press().text(Long.MAX_VALUE), false);
     }
 
     /** A refused call changes nothing. */
     private static void refusedAsAWhole() {
-        ChartPress press = Check.press("a\n1\n", "bar x a y coun");
+        Press press = Check.press("a\n1\n", "bar x a y coun");
         Check.due("t before a LF", press.text(0x740a), false);
         Check.due("t behind a CR", press.text(0x0d74), false);
         Check.due("draw without the t", Check.draw(press), "IllegalStateException");
@@ -46,7 +46,7 @@ public final class TextTest {
 
     /** "at most 160": what is refused is not taken in part, and the last character counts. */
     private static void moreThanHundredAndSixtyRefused() {
-        ChartPress press = Check.press("a\n1\n", "bar x a y count ");
+        Press press = Check.press("a\n1\n", "bar x a y count ");
         for (int i = 0; i < 17; i++) {
             Check.due("eight blanks", press.text(Check.eight("        ")), true);
         }
@@ -60,7 +60,7 @@ public final class TextTest {
 
     /** A full text takes nothing, refuses one, and takes again after a wipe. */
     private static void fullText() {
-        ChartPress press = Check.press("", " ".repeat(160));
+        Press press = Check.press("", " ".repeat(160));
         Check.due("nothing more", press.text(0), true);
         Check.due("one more", press.text(' '), false);
         Check.due("a wrong one more", press.text(1), false);
@@ -70,7 +70,7 @@ public final class TextTest {
         press.wipe(false);
         Check.feedText(press, "b".repeat(160));
         Check.due("one more than 160 again", press.text('b'), false);
-        ChartPress eights = new ChartPress();
+        Press eights = new Press();
         for (int i = 0; i < 20; i++) {
             Check.due("text of eight", eights.text(Check.eight("aaaaaaaa")), true);
         }

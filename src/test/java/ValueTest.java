@@ -45,13 +45,13 @@ public final class ValueTest {
 
     /** "0 when there is none" */
     private static void noSuchGroup() {
-        ChartPress press = Check.press("a,v\n1,5\n2,6\n", "bar x a y sum v");
+        Press press = Check.press("a,v\n1,5\n2,6\n", "bar x a y sum v");
         Check.due("draw", Check.draw(press), "2");
         int[] outside = {-1, 2, 3, 7, 8, 12, 256, 65536, Integer.MAX_VALUE, Integer.MIN_VALUE, Integer.MIN_VALUE + 1};
         for (int i : outside) {
             Check.due("value(" + i + ")", press.value(i), 0);
         }
-        ChartPress eight = Check.drawnPress(96, 64, "a\n1\n2\n3\n4\n5\n6\n7\n8\n", "bar x a y sum a");
+        Press eight = Check.drawnPress(96, 64, "a\n1\n2\n3\n4\n5\n6\n7\n8\n", "bar x a y sum a");
         Check.due("value(7) of eight", eight.value(7), 8000);
         Check.due("value(8) of eight", eight.value(8), 0);
         Check.refill(eight, "a,v\n1,7\n", "bar x a y sum v");
@@ -62,7 +62,7 @@ public final class ValueTest {
 
     /** "or nothing was drawn" */
     private static void nothingDrawn() {
-        ChartPress press = Check.press("a,v\n1,5\n2,6\n", "bar x a y sum v");
+        Press press = Check.press("a,v\n1,5\n2,6\n", "bar x a y sum v");
         Check.due("value(0) before anything is drawn", press.value(0), 0);
         Check.due("draw", Check.draw(press), "2");
         Check.due("value(0)", press.value(0), 5000);
@@ -72,7 +72,7 @@ public final class ValueTest {
 
     /** It is of what was drawn, not of the data as they are now. */
     private static void ofWhatWasDrawn() {
-        ChartPress press = Check.press("a,v\n1,5\n2,6\n", "bar x a y sum v");
+        Press press = Check.press("a,v\n1,5\n2,6\n", "bar x a y sum v");
         Check.due("draw", Check.draw(press), "2");
         Check.refill(press, "a,v\n1,7\n", "bar x a y sum v");
         Check.due("value(0), not drawn yet", press.value(0), 5000);

@@ -9,7 +9,7 @@ public final class WipeTest {
 
     /** "Empties the data": the text, the canvas and what was drawn stay. */
     private static void emptiesTheData() {
-        ChartPress press = Check.press("a\nx\n", "bar x a y count");
+        Press press = Check.press("a\nx\n", "bar x a y count");
         Check.due("draw", Check.draw(press), "1");
         String picture = Check.picture(press, 48, 32);
         press.wipe(true);
@@ -24,7 +24,7 @@ public final class WipeTest {
 
     /** "or the text": the data, the canvas and what was drawn stay. */
     private static void emptiesTheText() {
-        ChartPress press = Check.press("a\n1\n2\n", "bar x a y count");
+        Press press = Check.press("a\n1\n2\n", "bar x a y count");
         Check.due("draw", Check.draw(press), "2");
         press.wipe(false);
         Check.due("column(0) of the data that stayed", press.column(0), 1);
@@ -37,7 +37,7 @@ public final class WipeTest {
 
     /** Also when there is nothing to empty, and twice. */
     private static void emptiesWhatIsEmpty() {
-        ChartPress press = new ChartPress();
+        Press press = new Press();
         press.wipe(true);
         press.wipe(true);
         press.wipe(false);
